@@ -65,7 +65,7 @@ public final class QueueNetwork {
 
     // Where a run stands.
     private int now = 0;
-    private final int[] stages = new int[MOST_CUSTOMERS];
+    private final int[] currentVisits = new int[MOST_CUSTOMERS];
     private final int[] waitingAt = new int[MOST_CUSTOMERS];
     private final int[] freeServers = new int[STATIONS];
 
@@ -293,7 +293,7 @@ public final class QueueNetwork {
             freeServers[s] = serverCounts[s];
         }
         for (int c = 0; c < customers; c++) {
-            stages[c] = 0;
+            currentVisits[c] = visitIndex(c, 0);
             waitingAt[c] = NONE;
             addEvent(engine, arrivals[c] * EVENTS_PER_TIME + ARRIVAL_MARK + c);
         }
@@ -314,13 +314,13 @@ public final class QueueNetwork {
     private void happen(int mark) {
         int c = mark % ARRIVAL_MARK;
         if (mark < ARRIVAL_MARK) {
-            freeServers[visitStations[visitIndex(c, stages[c])]]++;
-            stages[c]++;
+            freeServers[visitStations[currentVisits[c]]]++;
+            currentVisits[c]++;
         }
-        if (stages[c] == visitCounts[c]) {
+        int v = currentVisits[c];
+        if (v == visitIndex(c, visitCounts[c])) {
             leaveTimes[c] = now;
         } else {
-            int v = visitIndex(c, stages[c]);
             joinTimes[v] = now;
             waitingAt[c] = visitStations[v];
         }
@@ -332,7 +332,7 @@ public final class QueueNetwork {
             if (c == NONE) {
                 break;
             }
-            int v = visitIndex(c, stages[c]);
+            int v = currentVisits[c];
             waitingAt[c] = NONE;
             freeServers[s]--;
             beginTimes[v] = now;
@@ -353,8 +353,8 @@ public final class QueueNetwork {
     // The customer c has the greater number of the two, so by every rule but
     // LAST_JOINED it must be strictly better to go first.
     private boolean goesBefore(int rule, int c, int best) {
-        int v = visitIndex(c, stages[c]);
-        int w = visitIndex(best, stages[best]);
+        int v = currentVisits[c];
+        int w = currentVisits[best];
         if (rule == LAST_JOINED) {
             return joinTimes[v] >= joinTimes[w];
         }

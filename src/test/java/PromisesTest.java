@@ -26,6 +26,7 @@ public final class PromisesTest {
         order();
         agree();
         orderAndLimits();
+        askedFirst();
         System.out.println(wrong == 0 ? "all promises hold" : wrong + " answers are not as due");
         if (wrong != 0) {
             System.exit(1);
@@ -139,29 +140,18 @@ public final class PromisesTest {
         }
     }
 
+    /** Customers 1, 2 and 3 join at 3, 1 and 2 with needs 5, 4 and 3, while customer 0 is served. */
     private static void rulesOf(int s) {
-        int[][] begins = {{0, 10, 15, 19}, {0, 14, 10, 23}, {0, 18, 14, 10}};
+        int[][] begins = {{0, 17, 10, 14}, {0, 10, 18, 15}, {0, 17, 13, 10}};
         for (int rule = 0; rule < 3; rule++) {
             QueueNetwork x = new QueueNetwork();
             due("station", x.station(s, 1, rule), true);
             add(x, 0, s, 10);
-            add(x, 2, s, rule == 1 ? 9 : 5);
-            add(x, 3, s, 4);
-            add(x, 1 + rule / 2 * 3, s, rule == 0 ? 3 : 4);
-            if (rule == 0) {
-                int[] joinedFirst = {0, 13, 18, 10};
-                for (int c = 0; c < 4; c++) {
-                    due("begins by rule 0 of " + c, x.begins(c, 0), joinedFirst[c]);
-                }
-            } else if (rule == 1) {
-                for (int c = 0; c < 4; c++) {
-                    due("begins by rule 1 of " + c, x.begins(c, 0), begins[1][c]);
-                }
-            } else {
-                int[] leastNeed = {0, 18, 10, 14};
-                for (int c = 0; c < 4; c++) {
-                    due("begins by rule 2 of " + c, x.begins(c, 0), leastNeed[c]);
-                }
+            add(x, 3, s, 5);
+            add(x, 1, s, 4);
+            add(x, 2, s, 3);
+            for (int c = 0; c < 4; c++) {
+                due("begins by rule " + rule + " of " + c, x.begins(c, 0), begins[rule][c]);
             }
         }
         tiesOf(s);
@@ -390,6 +380,7 @@ public final class PromisesTest {
             due("waits(1, " + t + ")", x.waits(1, t), want[t]);
             due("waits(0, " + t + ")", x.waits(0, t), 0);
         }
+        due("customer 0 waits", waitOfFirst().waits(1, 6), 1);
         due("waits(1, 10000)", x.waits(1, 10000), 0);
         due("waits(1, 10001)", x.waits(1, 10001), BAD);
         due("waits(4, 5)", x.waits(4, 5), BAD);
@@ -441,6 +432,7 @@ public final class PromisesTest {
         x.station(1, 3, 0);
         due("busy(1) with three servers", x.busy(1), 16);
         due("busy(4)", x.busy(4), BAD);
+        due("busy from time 0 on", waitOfFirst().busy(1), 11);
         for (int out : OUTSIDE) {
             due("busy out", x.busy(out), BAD);
         }
@@ -464,6 +456,19 @@ public final class PromisesTest {
         add(y, 1, 0, 5);
         add(y, 5, 0, 5);
         due("one begins as another joins", y.longest(0), 1);
+        QueueNetwork z = new QueueNetwork();
+        add(z, 0, 0, 1);
+        add(z, 0, 0, 1);
+        due("one waits at time 0 alone", z.longest(0), 1);
+        due("one waits for customer 0", waitOfFirst().longest(1), 1);
+    }
+
+    /** Customer 0 waits for customer 1, who is served 0..7. */
+    private static QueueNetwork waitOfFirst() {
+        QueueNetwork x = new QueueNetwork();
+        add(x, 1, 1, 4);
+        add(x, 0, 1, 7);
+        return x;
     }
 
     private static void last() {
@@ -479,6 +484,7 @@ public final class PromisesTest {
         due("last()", x.last(), 41);
         x.drop();
         due("last() after drop", x.last(), 40);
+        due("customer 0 is the last", waitOfFirst().last(), 11);
     }
 
     private static void order() {
@@ -552,5 +558,28 @@ public final class PromisesTest {
         due("longest", x.longest(-1), BAD);
         due("order", x.order(12), BAD);
         due("agree", x.agree(4, 0), false);
+    }
+
+    /** Each answer fits the plan as it is, whether or not another question came before. */
+    private static void askedFirst() {
+        promise = "asked first";
+        due("leaves(3, 1)", line().leaves(3, 1), 15);
+        due("joins(1, 0)", line().joins(1, 0), 3);
+        due("begins(1, 0)", line().begins(1, 0), 5);
+        due("at(1, 4)", line().at(1, 4), 3);
+        due("waits(1, 4)", line().waits(1, 4), 2);
+        due("area(1, 5)", line().area(1, 5), 6);
+        due("stays(1)", line().stays(1), 28);
+        due("busy(1)", line().busy(1), 15);
+        due("longest(1)", line().longest(1), 2);
+        due("last()", line().last(), 17);
+        due("order(2)", line().order(2), 2);
+        due("agree(1, 2)", line().agree(1, 2), true);
+        QueueNetwork x = line();
+        x.last();
+        x.station(1, 3, 0);
+        due("area after a change", x.area(1, 10000), 15);
+        x.station(1, 1, 0);
+        due("stays after a change", x.stays(1), 28);
     }
 }
