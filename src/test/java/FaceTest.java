@@ -104,6 +104,16 @@ public final class FaceTest {
         }
         checkArguments(code);
         checkLengths(source);
+        checkArrays(code);
+    }
+
+    /** Every array is made where its field stands, with a constant as its length. */
+    private static void checkArrays(String code) {
+        for (String line : code.split("\n")) {
+            boolean makes = line.matches(".*\\bnew\\b.*");
+            must(!makes || line.matches("    private final int\\[] \\w+ = new int\\[[A-Z_]+];"),
+                    "an array is made with its field: " + line.trim());
+        }
     }
 
     /** A bracket right behind a name opens the arguments of a call; none may open inside another one. */

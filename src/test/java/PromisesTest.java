@@ -1,78 +1,12 @@
 /** One method for each promise of the document: ordinary inputs, the named edges and wrong inputs. */
-public final class PromisesTest {
-    private static final int BAD = QueueNetwork.BAD;
-    private static final int FULL = QueueNetwork.FULL;
+public final class PromisesTest extends Checks {
     private static final int[] OUTSIDE = {Integer.MIN_VALUE, -1, 1 << 30, Integer.MAX_VALUE};
 
-    private static int wrong = 0;
-    private static String promise = "";
-
     public static void main(String[] args) {
-        newObject();
-        station();
-        arrive();
-        visit();
-        drop();
-        leaves();
-        joins();
-        begins();
-        at();
-        waits();
-        area();
-        stays();
-        busy();
-        longest();
-        last();
-        order();
-        agree();
-        orderAndLimits();
-        askedFirst();
-        System.out.println(wrong == 0 ? "all promises hold" : wrong + " answers are not as due");
-        if (wrong != 0) {
-            System.exit(1);
-        }
+        runTests(PromisesTest.class);
     }
 
-    private static void due(String call, int got, int want) {
-        if (got != want) {
-            wrong++;
-            System.out.println(promise + ": " + call + " answered " + got + ", due is " + want);
-        }
-    }
-
-    private static void due(String call, boolean got, boolean want) {
-        if (got != want) {
-            wrong++;
-            System.out.println(promise + ": " + call + " answered " + got + ", due is " + want);
-        }
-    }
-
-    /** Adds a customer with visits given as station, need, station, need, .. */
-    private static void add(QueueNetwork x, int time, int... visits) {
-        int c = x.arrive(time);
-        for (int i = 0; i < visits.length; i += 2) {
-            due("visit in add", x.visit(c, visits[i], visits[i + 1]), i / 2 + 1);
-        }
-    }
-
-    /** Every engine must answer the same. */
-    private static void dueLeaves(QueueNetwork x, int c, int want) {
-        for (int engine = 0; engine < 4; engine++) {
-            due("leaves(" + engine + ", " + c + ")", x.leaves(engine, c), want);
-        }
-    }
-
-    /** Three customers that need one server of station 1: served 2..5, 5..15, 15..17. */
-    private static QueueNetwork line() {
-        QueueNetwork x = new QueueNetwork();
-        add(x, 2, 1, 3);
-        add(x, 3, 1, 10);
-        add(x, 4, 1, 2);
-        return x;
-    }
-
-    private static void newObject() {
-        promise = "1 new object";
+    static void newObject() {
         due("BAD", BAD, -1);
         due("FULL", FULL, -2);
         QueueNetwork x = new QueueNetwork();
@@ -102,8 +36,7 @@ public final class PromisesTest {
         }
     }
 
-    private static void station() {
-        promise = "2 station";
+    static void station() {
         for (int s = 0; s < 4; s++) {
             serversOf(s);
             rulesOf(s);
@@ -180,8 +113,7 @@ public final class PromisesTest {
         due("least need, joined later", x.begins(1, 0), 14);
     }
 
-    private static void arrive() {
-        promise = "3 arrive";
+    static void arrive() {
         QueueNetwork x = new QueueNetwork();
         for (int out : OUTSIDE) {
             due("arrive(" + out + ")", x.arrive(out), BAD);
@@ -205,8 +137,7 @@ public final class PromisesTest {
         dueLeaves(x, 11, 9);
     }
 
-    private static void visit() {
-        promise = "4 visit";
+    static void visit() {
         QueueNetwork x = new QueueNetwork();
         due("visit without customers", x.visit(0, 0, 1), BAD);
         x.arrive(10);
@@ -238,8 +169,7 @@ public final class PromisesTest {
         due("at(1, 43)", x.at(1, 43), 1);
     }
 
-    private static void drop() {
-        promise = "5 drop";
+    static void drop() {
         QueueNetwork x = line();
         due("drop()", x.drop(), 2);
         due("last()", x.last(), 15);
@@ -265,8 +195,7 @@ public final class PromisesTest {
         due("the station stays as it is", y.leaves(0, 2), 13);
     }
 
-    private static void leaves() {
-        promise = "6 leaves";
+    static void leaves() {
         QueueNetwork x = line();
         dueLeaves(x, 0, 5);
         dueLeaves(x, 1, 15);
@@ -278,12 +207,10 @@ public final class PromisesTest {
         }
         due("leaves(4, 0)", x.leaves(4, 0), BAD);
         due("leaves(4, 3)", x.leaves(4, 3), BAD);
-        longestRun();
-        handOver();
     }
 
     /** The latest time that any plan can reach. */
-    private static void longestRun() {
+    static void longestRun() {
         QueueNetwork x = new QueueNetwork();
         for (int c = 0; c < 12; c++) {
             add(x, 100, 0, 30, 0, 30, 0, 30, 0, 30);
@@ -300,7 +227,7 @@ public final class PromisesTest {
     }
 
     /** A service that ends frees its server for those who join at the same time. */
-    private static void handOver() {
+    static void handOver() {
         QueueNetwork x = new QueueNetwork();
         x.station(1, 1, 1);
         add(x, 0, 1, 5, 1, 2);
@@ -314,8 +241,7 @@ public final class PromisesTest {
         dueLeaves(x, 2, 8);
     }
 
-    private static void joins() {
-        promise = "7 joins";
+    static void joins() {
         QueueNetwork x = line();
         due("visit", x.visit(1, 2, 4), 2);
         due("joins(0, 0)", x.joins(0, 0), 2);
@@ -332,8 +258,7 @@ public final class PromisesTest {
         }
     }
 
-    private static void begins() {
-        promise = "8 begins";
+    static void begins() {
         QueueNetwork x = line();
         due("visit", x.visit(1, 2, 4), 2);
         add(x, 14, 2, 8);
@@ -351,8 +276,7 @@ public final class PromisesTest {
         }
     }
 
-    private static void at() {
-        promise = "9 at";
+    static void at() {
         QueueNetwork x = line();
         int[] want = {0, 0, 1, 2, 3, 2, 2, 2, 2, 2, 2, 2, 2, 2, 2, 1, 1, 0, 0};
         for (int t = 0; t < want.length; t++) {
@@ -372,8 +296,7 @@ public final class PromisesTest {
         due("at(0, 0)", y.at(0, 0), 1);
     }
 
-    private static void waits() {
-        promise = "10 waits";
+    static void waits() {
         QueueNetwork x = line();
         int[] want = {0, 0, 0, 1, 2, 1, 1, 1, 1, 1, 1, 1, 1, 1, 1, 0, 0, 0, 0};
         for (int t = 0; t < want.length; t++) {
@@ -390,8 +313,7 @@ public final class PromisesTest {
         }
     }
 
-    private static void area() {
-        promise = "11 area";
+    static void area() {
         QueueNetwork x = line();
         int sum = 0;
         for (int end = 0; end < 20; end++) {
@@ -408,8 +330,7 @@ public final class PromisesTest {
         }
     }
 
-    private static void stays() {
-        promise = "12 stays";
+    static void stays() {
         QueueNetwork x = line();
         due("stays(1)", x.stays(1), 28);
         due("stays(0)", x.stays(0), 0);
@@ -423,8 +344,7 @@ public final class PromisesTest {
         }
     }
 
-    private static void busy() {
-        promise = "13 busy";
+    static void busy() {
         QueueNetwork x = line();
         add(x, 30, 1, 5);
         due("busy(1)", x.busy(1), 20);
@@ -438,8 +358,7 @@ public final class PromisesTest {
         }
     }
 
-    private static void longest() {
-        promise = "14 longest";
+    static void longest() {
         QueueNetwork x = line();
         due("longest(1)", x.longest(1), 2);
         due("longest(0)", x.longest(0), 0);
@@ -471,8 +390,7 @@ public final class PromisesTest {
         return x;
     }
 
-    private static void last() {
-        promise = "15 last";
+    static void last() {
         QueueNetwork x = new QueueNetwork();
         due("last() of none", x.last(), 0);
         x.arrive(0);
@@ -487,8 +405,7 @@ public final class PromisesTest {
         due("customer 0 is the last", waitOfFirst().last(), 11);
     }
 
-    private static void order() {
-        promise = "16 order";
+    static void order() {
         QueueNetwork x = new QueueNetwork();
         add(x, 9, 0, 11);
         add(x, 20);
@@ -505,8 +422,7 @@ public final class PromisesTest {
         }
     }
 
-    private static void agree() {
-        promise = "17 agree";
+    static void agree() {
         QueueNetwork x = line();
         for (int engine = 0; engine < 4; engine++) {
             for (int other = 0; other < 4; other++) {
@@ -523,8 +439,7 @@ public final class PromisesTest {
         due("agree(4, 4)", x.agree(4, 4), false);
     }
 
-    private static void orderAndLimits() {
-        promise = "18 order and limits";
+    static void orderAndLimits() {
         QueueNetwork x = line();
         for (int c = 3; c < 12; c++) {
             x.arrive(50);
@@ -561,8 +476,7 @@ public final class PromisesTest {
     }
 
     /** Each answer fits the plan as it is, whether or not another question came before. */
-    private static void askedFirst() {
-        promise = "asked first";
+    static void askedFirst() {
         due("leaves(3, 1)", line().leaves(3, 1), 15);
         due("joins(1, 0)", line().joins(1, 0), 3);
         due("begins(1, 0)", line().begins(1, 0), 5);
