@@ -15,10 +15,13 @@ abstract class Checks {
     static final int BAD = QueueNetwork.BAD;
     static final int FULL = QueueNetwork.FULL;
 
-    private static String test = "";
+    private static final long MOST_MILLISECONDS = 180_000;
+
+    private static volatile String test = "";
     private static int wrong = 0;
 
     static void runTests(Class<?> tests) {
+        failIfItDoesNotEnd();
         Method[] methods = tests.getDeclaredMethods();
         Arrays.sort(methods, Comparator.comparing(Method::getName));
         int ran = 0;
@@ -52,6 +55,21 @@ abstract class Checks {
         } catch (IllegalAccessException barred) {
             fail("can't be called: " + barred);
         }
+    }
+
+    /** A call that doesn't end must fail its test, not hold up the tests for ever. */
+    static void failIfItDoesNotEnd() {
+        Thread watch = new Thread(() -> {
+            try {
+                Thread.sleep(MOST_MILLISECONDS);
+            } catch (InterruptedException woken) {
+                return;
+            }
+            System.out.println(test + ": does not end");
+            Runtime.getRuntime().halt(1);
+        });
+        watch.setDaemon(true);
+        watch.start();
     }
 
     static void fail(String what) {

@@ -229,6 +229,39 @@ public final class EmptyAndFullTest extends Checks {
         due("last()", x.last(), 120);
     }
 
+    /** Arrivals and ends of service come in turn; every engine must bring them in the order of their times. */
+    static void twelveArriveInAnyOrderOfTheirNumbers() {
+        for (int factor = 1; factor <= 12; factor++) {
+            for (int step = 1; step <= 9; step++) {
+                dueServedInOrderOfArrival(factor, step);
+            }
+        }
+    }
+
+    /** The factor scatters the places 0 .. 11 over the customers; one arrives at each step. */
+    private static int scattered(int c, int factor) {
+        return (c + 1) * factor % 13 - 1;
+    }
+
+    private static void dueServedInOrderOfArrival(int factor, int step) {
+        QueueNetwork x = new QueueNetwork();
+        int[] customers = new int[12];
+        for (int c = 0; c <= 11; c++) {
+            int place = scattered(c, factor);
+            customers[place] = c;
+            add(x, place * step, 0, 6 + c % 5, 1, 2);
+        }
+        int free = 0;
+        for (int place = 0; place <= 11; place++) {
+            int c = customers[place];
+            int begin = Math.max(free, place * step);
+            due("begins(" + c + ", 0) with " + factor + " and " + step, x.begins(c, 0), begin);
+            free = begin + 6 + c % 5;
+            due("begins(" + c + ", 1) with " + factor + " and " + step, x.begins(c, 1), free);
+            dueLeaves(x, c, free + 2);
+        }
+    }
+
     static void shortestNeedsThroughout() {
         QueueNetwork x = new QueueNetwork();
         for (int c = 0; c <= 11; c++) {

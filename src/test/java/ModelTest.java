@@ -23,6 +23,7 @@ public final class ModelTest {
     }
 
     public static void main(String[] args) {
+        Checks.failIfItDoesNotEnd();
         int wrong = 0;
         for (int number = 0; number < PLANS && wrong == 0; number++) {
             ModelTest plan = new ModelTest(number);
