@@ -262,6 +262,25 @@ public final class EmptyAndFullTest extends Checks {
         }
     }
 
+    /** Twelve arrivals and 48 ends of service, no two at the same time: a plan can't have more times than that. */
+    static void sixtyTimesAtWhichSomethingHappens() {
+        QueueNetwork x = new QueueNetwork();
+        add(x, 0, 0, 29, 0, 2, 0, 2, 0, 2);
+        for (int c = 1; c <= 11; c++) {
+            add(x, 2 * c, 0, 2, 0, 2, 0, 2, 0, 2);
+        }
+        // Customer 0 comes back at 29, behind the eleven that wait by then.
+        for (int c = 0; c <= 11; c++) {
+            for (int k = 0; k <= 3; k++) {
+                due("begins(" + c + ", " + k + ")", x.begins(c, k), c + k == 0 ? 0 : 27 + 2 * (12 * k + c));
+            }
+            dueLeaves(x, c, 101 + 2 * c);
+        }
+        due("last()", x.last(), 123);
+        due("busy(0)", x.busy(0), 123);
+        due("order(11)", x.order(11), 11);
+    }
+
     static void shortestNeedsThroughout() {
         QueueNetwork x = new QueueNetwork();
         for (int c = 0; c <= 11; c++) {
