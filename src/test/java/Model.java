@@ -1,9 +1,13 @@
 import java.util.ArrayList;
 import java.util.List;
 
-/** Goes through the times one by one, word for word as the document's "Terms" do. */
+/**
+ * What the document asks, with no thought for speed: goes through the times one
+ * by one, word for word as the document's "Terms" do, and answers every call of
+ * the face from the times it found.
+ */
 final class Model {
-    static final class Visit {
+    private static final class Visit {
         final int station;
         final int need;
         int joined = -1;
@@ -24,7 +28,7 @@ final class Model {
         }
     }
 
-    static final class Customer {
+    private static final class Customer {
         final int arrival;
         final List<Visit> visits = new ArrayList<>();
         int stage = 0;
@@ -51,11 +55,205 @@ final class Model {
         }
     }
 
-    final int[] servers = {1, 1, 1, 1};
-    final int[] rules = {0, 0, 0, 0};
-    final List<Customer> customers = new ArrayList<>();
+    private static final int BAD = -1;
+    private static final int FULL = -2;
 
-    void run() {
+    private final int[] servers = {1, 1, 1, 1};
+    private final int[] rules = {0, 0, 0, 0};
+    private final List<Customer> customers = new ArrayList<>();
+    private boolean ran = false;
+
+    // The calls of the face
+
+    boolean station(int s, int count, int rule) {
+        if (!isIn(s, 0, 3) || !isIn(count, 1, 3) || !isIn(rule, 0, 2)) {
+            return false;
+        }
+        ran = false;
+        servers[s] = count;
+        rules[s] = rule;
+        return true;
+    }
+
+    int arrive(int time) {
+        if (!isIn(time, 0, 100)) {
+            return BAD;
+        }
+        if (customers.size() == 12) {
+            return FULL;
+        }
+        ran = false;
+        customers.add(new Customer(time));
+        return customers.size() - 1;
+    }
+
+    int visit(int c, int s, int need) {
+        if (!isCustomer(c) || !isIn(s, 0, 3) || !isIn(need, 1, 30)) {
+            return BAD;
+        }
+        List<Visit> visits = customers.get(c).visits;
+        if (visits.size() == 4) {
+            return FULL;
+        }
+        ran = false;
+        visits.add(new Visit(s, need));
+        return visits.size();
+    }
+
+    int drop() {
+        if (customers.isEmpty()) {
+            return BAD;
+        }
+        ran = false;
+        customers.remove(customers.size() - 1);
+        return customers.size();
+    }
+
+    int leaves(int engine, int c) {
+        run();
+        return isCustomer(c) && isIn(engine, 0, 3) ? customers.get(c).left : BAD;
+    }
+
+    int joins(int c, int k) {
+        run();
+        return isVisit(c, k) ? customers.get(c).visits.get(k).joined : BAD;
+    }
+
+    int begins(int c, int k) {
+        run();
+        return isVisit(c, k) ? customers.get(c).visits.get(k).begun : BAD;
+    }
+
+    int at(int s, int t) {
+        run();
+        return isIn(s, 0, 3) && isIn(t, 0, 10000) ? countAt(s, t) : BAD;
+    }
+
+    int waits(int s, int t) {
+        run();
+        return isIn(s, 0, 3) && isIn(t, 0, 10000) ? countWaits(s, t) : BAD;
+    }
+
+    int area(int s, int end) {
+        run();
+        if (!isIn(s, 0, 3) || !isIn(end, 0, 10000)) {
+            return BAD;
+        }
+        // When the last one has left, nobody is anywhere.
+        int until = Math.min(end, last());
+        int sum = 0;
+        for (int t = 0; t < until; t++) {
+            sum += countAt(s, t);
+        }
+        return sum;
+    }
+
+    int stays(int s) {
+        run();
+        if (!isIn(s, 0, 3)) {
+            return BAD;
+        }
+        int sum = 0;
+        for (Customer c : customers) {
+            for (Visit v : c.visits) {
+                sum += v.station == s ? v.left - v.joined : 0;
+            }
+        }
+        return sum;
+    }
+
+    int busy(int s) {
+        run();
+        if (!isIn(s, 0, 3)) {
+            return BAD;
+        }
+        int until = last();
+        int times = 0;
+        for (int t = 0; t < until; t++) {
+            times += countAt(s, t) > countWaits(s, t) ? 1 : 0;
+        }
+        return times;
+    }
+
+    int longest(int s) {
+        run();
+        if (!isIn(s, 0, 3)) {
+            return BAD;
+        }
+        int until = last();
+        int most = 0;
+        for (int t = 0; t < until; t++) {
+            most = Math.max(most, countWaits(s, t));
+        }
+        return most;
+    }
+
+    int last() {
+        run();
+        int latest = 0;
+        for (Customer c : customers) {
+            latest = Math.max(latest, c.left);
+        }
+        return latest;
+    }
+
+    int order(int k) {
+        run();
+        List<Customer> sorted = new ArrayList<>(customers);
+        // The sort is stable, so those that leave together stay in the order
+        // of their numbers.
+        sorted.sort((a, b) -> a.left - b.left);
+        return isCustomer(k) ? customers.indexOf(sorted.get(k)) : BAD;
+    }
+
+    /** No answer depends on the engine, so any two that there are find the same times. */
+    boolean agree(int engine, int other) {
+        return isIn(engine, 0, 3) && isIn(other, 0, 3);
+    }
+
+    int customers() {
+        return customers.size();
+    }
+
+    private static boolean isIn(int value, int least, int greatest) {
+        return value >= least && value <= greatest;
+    }
+
+    private boolean isCustomer(int c) {
+        return isIn(c, 0, customers.size() - 1);
+    }
+
+    private boolean isVisit(int c, int k) {
+        return isCustomer(c) && isIn(k, 0, customers.get(c).visits.size() - 1);
+    }
+
+    private int countAt(int s, int t) {
+        int count = 0;
+        for (Customer c : customers) {
+            for (Visit v : c.visits) {
+                count += v.isAt(s, t) ? 1 : 0;
+            }
+        }
+        return count;
+    }
+
+    private int countWaits(int s, int t) {
+        int count = 0;
+        for (Customer c : customers) {
+            for (Visit v : c.visits) {
+                count += v.waits(s, t) ? 1 : 0;
+            }
+        }
+        return count;
+    }
+
+    // What happens at every time
+
+    private void run() {
+        if (ran) {
+            return;
+        }
+        ran = true;
         for (Customer c : customers) {
             c.stage = 0;
             c.left = -1;
@@ -120,31 +318,5 @@ final class Model {
             found.sort((a, b) -> a.present().need - b.present().need);
         }
         return found.get(rules[s] == 1 ? found.size() - 1 : 0);
-    }
-
-    List<Visit> visits() {
-        List<Visit> all = new ArrayList<>();
-        for (Customer c : customers) {
-            all.addAll(c.visits);
-        }
-        return all;
-    }
-
-    int at(int s, int t) {
-        return (int) visits().stream().filter(v -> v.isAt(s, t)).count();
-    }
-
-    int waits(int s, int t) {
-        return (int) visits().stream().filter(v -> v.waits(s, t)).count();
-    }
-
-    int last() {
-        return customers.stream().mapToInt(c -> c.left).max().orElse(0);
-    }
-
-    int order(int k) {
-        List<Customer> sorted = new ArrayList<>(customers);
-        sorted.sort((a, b) -> a.left - b.left);
-        return k < 0 || k >= sorted.size() ? -1 : customers.indexOf(sorted.get(k));
     }
 }

@@ -496,4 +496,20 @@ public final class PromisesTest extends Checks {
         x.station(1, 1, 0);
         due("stays after a change", x.stays(1), 28);
     }
+
+    static void exampleOfTheReadme() {
+        QueueNetwork network = new QueueNetwork();
+        network.station(0, 1, 2);
+        int a = network.arrive(0);
+        network.visit(a, 0, 10);
+        network.visit(a, 3, 5);
+        int b = network.arrive(4);
+        network.visit(b, 0, 2);
+        due("leaves(0, a)", network.leaves(0, a), 15);
+        due("begins(b, 0)", network.begins(b, 0), 10);
+        due("waits(0, 7)", network.waits(0, 7), 1);
+        due("order(0)", network.order(0), 1);
+        due("last()", network.last(), 15);
+        due("agree(0, 3)", network.agree(0, 3), true);
+    }
 }

@@ -212,6 +212,35 @@ public final class SameTimeTest extends Checks {
         due("busy(0)", x.busy(0), 6);
     }
 
+    /** By its next visit customer 1 has joined at 5, not left and not begun: it is there, as one, and waits. */
+    static void oneWhoComesBackAndWaitsIsOneCustomer() {
+        QueueNetwork x = comeBack(0);
+        int[] there = {1, 2, 3, 3, 3, 3, 3, 3, 2, 1, 1, 0};
+        int[] waiting = {0, 1, 2, 2, 2, 2, 2, 2, 1, 0, 0, 0};
+        for (int t = 0; t < there.length; t++) {
+            due("at(0, " + t + ")", x.at(0, t), there[t]);
+            due("waits(0, " + t + ")", x.waits(0, t), waiting[t]);
+        }
+        due("longest(0)", x.longest(0), 2);
+        due("busy(0)", x.busy(0), 11);
+        due("stays(0)", x.stays(0), 25);
+        due("area(0, 6)", x.area(0, 6), 15);
+        due("area(0, 5)", x.area(0, 5), 12);
+    }
+
+    static void oneWhoComesBackFromElsewhereIsNotThereBetween() {
+        QueueNetwork x = new QueueNetwork();
+        add(x, 0, 0, 3, 1, 4, 0, 2);
+        for (int t = 0; t <= 10; t++) {
+            due("at(0, " + t + ")", x.at(0, t), t < 3 || t == 7 || t == 8 ? 1 : 0);
+            due("at(1, " + t + ")", x.at(1, t), t >= 3 && t < 7 ? 1 : 0);
+            due("waits(0, " + t + ")", x.waits(0, t), 0);
+        }
+        due("busy(0)", x.busy(0), 5);
+        due("stays(0)", x.stays(0), 5);
+        due("area(0, 10000)", x.area(0, 10000), 5);
+    }
+
     static void aServerThatGetsFreeIsTakenAtTheSameTime() {
         QueueNetwork x = new QueueNetwork();
         add(x, 0, 0, 5);
